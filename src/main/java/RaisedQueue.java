@@ -823,7 +823,6 @@ public final class RaisedQueue {
             within = 0;
             open = 0;
             partDue = true;
-            law.size = 0;
             for (int i = 0; i <= Tape.ROOM; i++) {
                 if (!partDue && open == 0 && tape.sign == ';') {
                     settle(law, TESTS);

@@ -89,9 +89,33 @@ public final class ModelTest {
             } else if (draw < 120 && style == 1) {
                 call(random.nextInt(3) > 0 ? "meld" : "take",
                     random.nextBoolean() ? new Object[] {heapNumber(), heapNumber()} : new Object[] {heapNumber()});
+            } else if (draw < 120 && style == 2) {
+                seeAndMark();
             } else {
                 callAny();
             }
+        }
+    }
+
+    private void seeAndMark() {
+        switch (random.nextInt(6)) {
+            case 0:
+                call("see", random.nextInt(3), random.nextInt(4), random.nextInt(4) == 0);
+                break;
+            case 1:
+            case 2:
+                call("mark", small(2), random.nextInt(3) > 0);
+                call("who");
+                break;
+            case 3:
+                call("ask");
+                break;
+            case 4:
+                call("take", heapNumber());
+                break;
+            default:
+                call("undo");
+                break;
         }
     }
 
