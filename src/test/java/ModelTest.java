@@ -18,6 +18,8 @@ public final class ModelTest {
         "meld", "shelve", "plain", "urgent", "late", "odd", "not", "and", "or", "rank", "all", "a", "b", "zz",
         "abcdefghi", "0", "1", "6", "7", "99", "100", "999", "1000", "10000", "0001", ";", "(", ")", "<", "=", "+", "-",
         "*", "/", ">", "A", "a1", "1a", ",", "\"", "~"};
+    private static final String[] LAWS = {"target + all", "target + 9 - all", "all - target", "target * rank + all",
+        "( all < 5 ) * 7 + target", "2", "3", "rank + 1", "all", "share * rank + 1", "5 - rank", "target + 1"};
     private static final int[] ODD_NUMBERS = {-1, -2, 20, 21, 99, 100, 9999, 10000, Integer.MIN_VALUE,
         Integer.MAX_VALUE};
 
@@ -149,7 +151,11 @@ public final class ModelTest {
         }
         if (random.nextInt(2) == 0) {
             List<String> law = new ArrayList<>(List.of("grows"));
-            e(law, 0, 0);
+            if (random.nextInt(3) == 0) {
+                law.addAll(Arrays.asList(pick(LAWS).split(" ")));
+            } else {
+                e(law, 0, 0);
+            }
             law.add(";");
             lines.add(random.nextInt(lines.size() + 1), law);
         }

@@ -356,14 +356,13 @@ public final class PromiseTest {
             + " item k plain 3 over 1 in a; item l plain 4 over 1 in a;");
         // RANK 1: 1 + 1; RANK 2: 2 + 2
         Check.same("target and rank", y.tree(0, 0, 1), 4);
-        // a: RANK 1, TARGET 1 + 3 * 1; then its ITEMS but one go; b: RANK 1 with TARGET 5
-        RaisedQueue z = told("heap a; heap b; grows target + all; item i plain 1 over 1 in a; item j plain 2 over 1 in b;"
-            + " item k plain 3 over 1 in b; item l plain 4 over 1 in b;");
-        Check.same("greater target: a put", z.put(z.take(1), 0), true);
-        Check.same("greater target: RANK 1 of a", z.tree(0, 0, 1), 3);
-        Check.same("greater target: RANK 1 of b is left with one", z.heap(1, 0), 2);
-        Check.same("greater target: meld", z.meld(0, 1), true);
-        Check.same("greater target: trees", z.heap(1, 1) > 0, true);
+        // RANK 1: 1 + 2, then, JOINED to it, RANK 1: 1 + 4; of these the greater one: RANK 2: 5 + 4
+        String four = "; item i plain 1 over 1 in a; item j plain 2 over 1 in a; item k plain 3 over 1 in a;"
+            + " item l plain 4 over 1 in a;";
+        Check.same("the second CHILD's TARGET is the greater", told("heap a; grows target + all" + four).tree(0, 0, 1), 9);
+        // RANK 1: 1 + 9 - 2, then 1 + 9 - 4; RANK 2: 8 + 9 - 4
+        Check.same("the first CHILD's TARGET is the greater", told("heap a; grows target + 9 - all" + four)
+            .tree(0, 0, 1), 13);
     }
 
     private static void workFault(int kind, String marked) {
