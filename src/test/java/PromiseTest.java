@@ -225,6 +225,8 @@ public final class PromiseTest {
         x.see(0, 0, true);
         x.who();
         x.mark(0, false);
+        Check.same("shelve", x.shelve(2, 1), 1);
+        Check.same("undo", x.undo(), true);
         Check.same("a FAULT leaves all", Check.queue(x, "heap z; heap y; share 1; item w odd 1 over 1 in z"), 1 + 16 * 49);
         Check.same("left: HEAPS", x.count(0), 3);
         Check.same("left: ITEMS", x.count(2), 8);
@@ -250,6 +252,16 @@ public final class PromiseTest {
         Check.same("anew: the ITEM", x.first(0), 0);
         Check.same("anew: old names are gone", Check.work(x, "take c;"), 2 + 16 * 5);
         Check.same("anew: judged", x.judged(1), 0);
+        RaisedQueue shelved = told(FIVE);
+        shelved.shelve(0, 0);
+        shelved.shelve(0, 0);
+        shelved.take(0);
+        Check.same("the same again", Check.queue(shelved, FIVE), 0);
+        Check.same("anew: SHELF", shelved.shelf(0), 0);
+        Check.same("anew: SHELF of an ITEM", shelved.item(0, 2), NONE);
+        Check.same("anew: place of an ITEM", shelved.item(1, 3), NONE);
+        Check.same("anew: FLOOR", shelved.count(4), 0);
+        Check.same("anew: HEAP", shelved.heap(0, 0), 5);
         RaisedQueue y = told("heap a; item b odd 0 over 1 in a; item c odd 0 over 1 in a; share 0; grows 1;");
         Check.same("share, grows as they are at last", y.heap(0, 2), 0);
         Check.same("a second QUEUE without them", Check.queue(y,
@@ -773,6 +785,16 @@ public final class PromiseTest {
         }
         Check.same("split of equal ones", y.split(0, 0), Math.max(first, second));
         Check.same("split of equal ones: ahead of it", y.split(0, 1), Math.max(first, second));
+        // the two least come first, the greater one of them is at place 1
+        RaisedQueue six = told("heap a; grows 1; item i plain 6 over 1 in a; item j plain 2 over 1 in a;"
+            + " item k plain 5 over 1 in a; item l plain 1 over 1 in a; item m plain 4 over 1 in a; item n plain 3 over 1 in a;");
+        Check.same("split of 6", six.split(0, 0), 1);
+        Check.same("split of 6: ahead of it", six.split(0, 1), 1);
+        Check.same("steps of 6: the SPLIT", six.steps(0, 1), 1);
+        Check.same("steps of 6: ahead of it", six.steps(0, 0), 2);
+        // 3, 4, 5, 6 are left: a third of 4 is 1
+        Check.same("steps of 6: behind it", six.steps(0, 2), 2);
+        Check.same("steps of 6: the last", six.steps(0, 5), 5);
         // the HEAP stands otherwise than one PUT by numbers: STEPS look at the latter alone
         RaisedQueue z = told("heap a; share 0; item k plain 7 over 1 in a; item i plain 8 over 1 in a; item j plain 5 over 1 in a;");
         comesIs(z, 0, new int[] {2, 0, 1});
@@ -898,6 +920,18 @@ public final class PromiseTest {
         Check.same("who", y.who(), 2);
         RaisedQueue z = told("heap a; heap b; item i odd 1 over 1 in a; item j odd 1 over 1 in b;");
         Check.same("nothing parts them", z.ask(), NONE);
+        // alike up to the ninth, or up to the tenth that would come
+        String nine = "heap a; heap b; shelf s odd; ";
+        for (int i = 0; i < 9; i++) {
+            nine += "item c" + (char) ('a' + i) + " plain 0 over 1 in a; item d" + (char) ('a' + i) + " plain 0 over 1 in b; ";
+        }
+        Check.same("ask of the tenth", told(nine + "item e odd 0 over 1 in b;").ask(), 4 * 9 + 3);
+        RaisedQueue tenth = told(nine + "item e late 0 over 1 in b; item f late 0 over 1 in a;");
+        Check.same("nothing parts them up to the tenth", tenth.ask(), NONE);
+        Check.same("see of the tenth", tenth.see(9, 2, true), true);
+        Check.same("who of the tenth", tenth.who(), 3);
+        Check.same("ten in one, ten in the other: take", tenth.take(1) >= 0, true);
+        Check.same("who of nine", tenth.who(), 1);
         RaisedQueue none = new RaisedQueue();
         Check.same("see without a QUEUE", none.see(0, 0, true), true);
         Check.same("who without a QUEUE", none.who(), 0);
