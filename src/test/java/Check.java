@@ -3,8 +3,16 @@ final class Check {
     private static final int MOST_PRINTED = 40;
     private static int passed = 0;
     private static int failed = 0;
+    private static String heading = "";
+    private static int headings = 0;
 
     private Check() {
+    }
+
+    /** What is looked at from here on belongs to this promise and to this sentence of the document. */
+    static void heading(String promise, String sentence) {
+        heading = promise + ": \"" + sentence + "\": ";
+        headings++;
     }
 
     static void same(String what, long got, long due) {
@@ -14,7 +22,7 @@ final class Check {
         }
         failed++;
         if (failed <= MOST_PRINTED) {
-            System.out.println(what + " answered " + got + ", due is " + due);
+            System.out.println(heading + what + " answered " + got + ", due is " + due);
         }
     }
 
@@ -24,14 +32,15 @@ final class Check {
 
     static void same(String what, String got, String due) {
         if (!got.equals(due)) {
-            System.out.println(what + " answered " + got + ", due is " + due);
+            System.out.println(heading + what + " answered " + got + ", due is " + due);
         }
         same(what + " (as told above)", got.equals(due), true);
     }
 
     /** Told at a test's end: how it went; the machine ends with 1 if anything failed. */
     static void end(String name) {
-        System.out.println(name + ": " + passed + " answers as due, " + failed + " not");
+        String sentences = headings == 0 ? "" : headings + " sentences, ";
+        System.out.println(name + ": " + sentences + passed + " answers as due, " + failed + " not");
         if (failed != 0) {
             System.exit(1);
         }
@@ -60,5 +69,12 @@ final class Check {
     static int work(RaisedQueue x, String text) {
         write(x, text);
         return x.work();
+    }
+
+    /** A new object to which this QUEUE was told. */
+    static RaisedQueue told(String text) {
+        RaisedQueue x = new RaisedQueue();
+        same("queue() of " + text, queue(x, text), 0);
+        return x;
     }
 }

@@ -58,9 +58,7 @@ public final class PromiseTest {
     }
 
     private static RaisedQueue told(String text) {
-        RaisedQueue x = new RaisedQueue();
-        Check.same("queue() of " + text, Check.queue(x, text), 0);
-        return x;
+        return Check.told(text);
     }
 
     private static int bitsOf(double number) {
