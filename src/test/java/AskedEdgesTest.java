@@ -60,10 +60,12 @@ public final class AskedEdgesTest {
         daysWorks();
         marksOthers();
         marksHold();
+        marksOfTheirOwn();
         marksAndUndo();
         counts();
         shutOnce();
         allIsAsAhead();
+        questionsDoNotMix();
         lastCall();
         Check.end("AskedEdgesTest");
     }
@@ -288,6 +290,11 @@ public final class AskedEdgesTest {
         // e, f of RANK 1 stay, a .. d of RANK 2 take their place: of equal CKEYS the least RANK
         orderIs(turned, 1, 4, 0, 5, 1, 2, 3);
         Check.same("4 and 0 come: 4", turned.split(1, 0), 4);
+        // 7, then 8, in NODES of their own; 5, 7 in one LIST under 7, then under 9: of equal CKEYS the least RANK
+        RaisedQueue zero = Check.told("heap a; heap b; grows (rank = 2) * 2;" + plain('a', "b", 7, 8) + plain('c', "a", 5, 7, 9, 9));
+        zero.meld(1, 0);
+        orderIs(zero, 0, 0, 2, 1, 3, 4, 5);
+        Check.same("7, ITEM 0, then 5 come: 7", zero.split(0, 0), 0);
 
         Check.heading(SPLIT, "how many ITEMS of the HEAP stand ahead of it by KEYS");
         Check.same("7 of 5, 6, 7, 9, 9", ofKeys("grows 9;", 5, 6, 9, 9, 7).split(0, 1), 2);
@@ -600,6 +607,9 @@ public final class AskedEdgesTest {
         RaisedQueue nine = ofKeys("grows 1;", upTo(9));
         nine.see(9, 0, true);
         Check.same("the tenth of nine", nine.who(), 0);
+        RaisedQueue eleven = ofKeys("grows 1;", upTo(11));
+        eleven.see(0, 0, true);
+        Check.same("the eleventh of one HEAP is not the first of the next one", eleven.who(), 1);
         for (int kind = 0; kind < 4; kind++) {
             RaisedQueue z = Check.told("heap a; item i " + KINDS[kind] + " 1 over 1 in a;");
             z.see(0, kind, true);
@@ -767,6 +777,11 @@ public final class AskedEdgesTest {
         x.put(0, 1);
         daysAre(x, 11, 1, 1, 1, 1); // 0 0 3: a into b: 5 and 6 in one LIST
         daysAre(x, 57, 1, 1, 1, 1); // 1 0 3: b into c: 6 and 7 in one LIST
+        Check.same("c is empty", x.take(2), 1);
+        daysAre(x, 57, 1, 1, 0, 2); // 1 0 3: b into c, which is empty, not into a
+        daysAre(x, 34, 1, 1, 0, 2); // 2 0 3: c, which is empty, into a, not into b
+        daysAre(x, 11, 1, 1, 1, 2); // 0 0 3: a into b, not into c
+        Check.same("put it back", x.put(1, 2), true);
         Check.same("all is as ahead", x.heap(0, 0) + x.heap(1, 0) + x.heap(2, 0), 3);
 
         Check.heading(DAYS, "DAYS by a SEED of so many (1 to 99)");
@@ -877,6 +892,45 @@ public final class AskedEdgesTest {
         Check.same("back to 8", eight.count(8), 8);
         Check.same("no ninth again", eight.see(9, 0, false), false);
         Check.same("all 8 are as they were", eight.who(), 7);
+    }
+
+    private static void marksOfTheirOwn() {
+        Check.heading(MARK, "MARKS 0 and 1 hold all, each its own");
+        RaisedQueue x = Check.told("heap a; heap b; heap c; grows 1; item i plain 1 over 1 in a; item j odd 1 over 1 in b;"
+            + " item k late 1 over 1 in c;");
+        x.see(0, 0, false);
+        x.mark(0, false);
+        for (int i = 1; i < 7; i++) {
+            x.see(i, 3, false);
+        }
+        x.see(0, 3, false);
+        x.mark(1, false);
+        Check.same("8 SEEN: c", x.who(), 4);
+        x.mark(0, true);
+        Check.same("1 SEEN: b, c", x.who(), 6);
+        x.see(0, 2, false);
+        Check.same("2 SEEN: b", x.who(), 2);
+        x.mark(0, false);
+        x.mark(1, true);
+        Check.same("8 SEEN again: c", x.who(), 4);
+        x.mark(0, true);
+        Check.same("2 SEEN again: b", x.who(), 2);
+        x.mark(1, false);
+        x.see(0, 3, false);
+        Check.same("3 SEEN: none", x.who(), 0);
+        x.mark(1, true);
+        Check.same("2 SEEN: b", x.who(), 2);
+        // NODES below others: what stands above each is held, too
+        RaisedQueue deep = ofKeys("grows 1;", 8, 7, 6, 5, 4, 3, 2, 1);
+        deep.mark(1, false);
+        deep.take(0);
+        deep.take(0);
+        deep.meld(0, 1);
+        deep.mark(1, true);
+        Check.same("three NODES above one", deep.depth(0), 3);
+        Check.same("in one TREE", deep.tree(0, 0, 4), 8);
+        Check.same("MELDED", deep.meld(0, 2), true);
+        Check.same("all of them", deep.heap(2, 0), 8);
     }
 
     private static void marksAndUndo() {
@@ -1094,6 +1148,50 @@ public final class AskedEdgesTest {
         Check.same("behind JUDGED", picture(x), before);
         Check.same("it can be undone as ahead", x.undo(), true);
         Check.same("undone", x.heap(1, 0), 2);
+    }
+
+    private static final int QUESTIONS = 3 * 9 + 6;
+
+    /** What a question of three HEAPS answers; the last six are of no HEAP. */
+    private static int answer(RaisedQueue x, int question) {
+        int heap = question % 3;
+        switch (question / 3) {
+            case 0: return x.first(heap);
+            case 1: return comesOf(x, heap, 1);
+            case 2: return awayOf(x, heap, heap == 0 ? 1 : heap == 1 ? 5 : 8);
+            case 3: return x.wrongs(heap);
+            case 4: return x.far(heap);
+            case 5: return x.split(heap, 1);
+            case 6: return x.steps(heap, 2);
+            case 7: return x.worth(heap);
+            case 8: return x.mean(heap);
+            case 9: return heap == 0 ? x.who() : heap == 1 ? x.ask() : x.days(77, 40, 1);
+            default: return heap == 0 ? x.days(77, 40, 2) : x.judged(heap);
+        }
+    }
+
+    private static RaisedQueue ofThree() {
+        RaisedQueue x = Check.told("heap a; heap b; heap c; share 0;" + plain('a', "a", 8, 5, 7, 6)
+            + plain('e', "b", 9, 3, 4) + plain('h', "c", 2, 1, 2, 1, 5, 6));
+        Check.same("a WORK", Check.work(x, "take a; take b; meld a b; take c; take c;"), 0);
+        Check.same("SEEN", x.see(3, 3, false), true);
+        Check.same("take", x.take(2) >= 0, true);
+        return x;
+    }
+
+    private static void questionsDoNotMix() {
+        Check.heading("Promises 15 to 34", "What TAKES here is tried, and SHUT behind itself: all is as ahead");
+        int[] alone = new int[QUESTIONS];
+        for (int i = 0; i < QUESTIONS; i++) {
+            alone[i] = answer(ofThree(), i);
+        }
+        for (int ahead = 0; ahead < QUESTIONS; ahead++) {
+            RaisedQueue x = ofThree();
+            for (int i = 0; i < QUESTIONS; i++) {
+                answer(x, ahead);
+                Check.same("question " + i + " behind " + ahead, answer(x, i), alone[i]);
+            }
+        }
     }
 
     // ---- the last call ----

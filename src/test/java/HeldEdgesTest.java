@@ -525,6 +525,12 @@ public final class HeldEdgesTest {
         Check.same("take", y.take(0), 1);
         Check.same("now it is a LEAF: it is gone", y.heap(0, 1), 1);
         Check.same("RANK 0 is there", y.tree(0, 0, 0), 0);
+        RaisedQueue again = ofKeys("", 7);
+        for (int i = 0; i < 100; i++) {
+            Check.same("take, time " + i, again.take(0), 0);
+            Check.same("put, time " + i, again.put(0, 0), true);
+        }
+        listIs(again, 0, 0, 0);
     }
 
     // ---- Promise 12 ----
@@ -689,6 +695,20 @@ public final class HeldEdgesTest {
             Check.same("all is as it was ahead of work " + work, picture(x), before);
             Check.same("what can be undone is as ahead", x.count(9), 4);
         }
+        // NODES below others: what stands above each is back, too
+        RaisedQueue deep = Check.told("heap a; heap b; grows 1;" + plain('a', "a", 4, 3, 2, 1) + plain('e', "b", 8, 7, 6, 5));
+        String before = picture(deep);
+        deep.meld(0, 1);
+        Check.same("three NODES above one", deep.depth(4), 3);
+        deep.take(1);
+        deep.take(1);
+        for (int i = 0; i < 3; i++) {
+            Check.same("undo", deep.undo(), true);
+        }
+        Check.same("all is as it was", picture(deep), before);
+        Check.same("MELD again", deep.meld(1, 0), true);
+        Check.same("all of them", deep.heap(0, 0), 8);
+        Check.same("all in one TREE", deep.tree(0, 0, 4), 8);
         RaisedQueue x = ofKeys("grows 1;", 1, 2);
         x.take(0);
         x.take(1);

@@ -1,3 +1,4 @@
+import java.util.List;
 import java.util.NoSuchElementException;
 
 /**
@@ -410,6 +411,14 @@ public final class ToldEdgesTest {
             fault(1, "shelf s |" + word + ";");
             fault(1, "heap a; item i |" + word + " 1 over 1 in a;");
         }
+        for (String word : RESERVED) {
+            if (!List.of(kinds).contains(word)) {
+                fault(1, "shelf s |" + word + ";");
+                fault(1, "heap a; item i |" + word + " 1 over 1 in a;");
+            }
+        }
+        fault(1, "shelf s |target;");
+        fault(1, "shelf s |all;");
 
         Check.heading(QUEUE, "item: 20 at most, numbered as told");
         RaisedQueue full = fine("heap a;" + items(19, "a") + "item y odd 4 over 1 in a;");
@@ -547,7 +556,12 @@ public final class ToldEdgesTest {
         Check.heading(QUEUE, "PART: a NUMBER, a fact, not PART, ( E )");
         fault(1, "grows |a;");
         fault(1, "heap a; grows |a;");
-        fault(1, "grows |item;");
+        for (String word : RESERVED) {
+            if (!word.equals("share") && !word.equals("not")) {
+                fault(1, "grows |" + word + ";");
+                fault(1, "grows 1 + |" + word + ";");
+            }
+        }
         fault(1, "grows |ranks;");
         fault(1, "grows not |;");
         fault(1, "grows 1 |not 1;");
@@ -560,6 +574,11 @@ public final class ToldEdgesTest {
         grows(6, "not 0 + 5");
         grows(7, "not 0 * 7");
         grows(2, "1 + (not 0 = 1)");
+        grows(6, "5 + not (0)");
+        grows(7, "not (0) * 7");
+        grows(7, "not (1 = 2) + 6");
+        grows(9, "not (not (0 + 1)) + (2 + 3) * 2 - 2");
+        grows(8, "not not (7) * 3 + 5");
     }
 
     private static void partsWithin() {
@@ -576,6 +595,18 @@ public final class ToldEdgesTest {
         fault(5, "grows ((((1 * (|2)))));");
         fault(5, "grows ((((1 * not |2))));");
         fine("grows (((1))) and (((not 1))) and not ((not 1));");
+        fine("grows not (1) + not (1) + not (1) + not (1) + not (1) + not (1);");
+        fine("grows (1) + (1) + (1) + (1) + (1) + (1) + not 1 + not 1 + not 1 + not 1 + not 1;");
+        RaisedQueue x = new RaisedQueue();
+        for (int i = 0; i < 6; i++) {
+            Check.same("an E cut off", Check.queue(x, "grows ((not (1"), 1 + 16 * 14);
+            Check.same("is not within the next one", Check.queue(x, "grows ((((1))));"), 0);
+            Check.same("an E cut off", Check.queue(x, "grows 1 + (not"), 1 + 16 * 14);
+            Check.same("opens nothing in the next one", Check.queue(x, "grows 1);"), 1 + 16 * 7);
+            Check.same("an E cut off behind a sign", Check.queue(x, "grows 7 *"), 1 + 16 * 9);
+            Check.same("leaves no sign", Check.queue(x, "heap a; grows 1 + 3;" + items(2, "a")), 0);
+            Check.same("the next one's TARGET", x.tree(0, 0, 1), 4);
+        }
 
         Check.heading(QUEUE, "5 one too many: [..] not, or a PART, within 5 others");
         fault(5, "grows not not not not not |not 1;");
@@ -897,6 +928,25 @@ public final class ToldEdgesTest {
         Check.same("an old NAME is free", Check.queue(y, "heap i; heap s;" + items(4, "s")), 0);
         // three of RANK 1 by grows 2 would have a LIST of 2
         Check.same("no old grows", y.tree(1, 0, 1), 1);
+
+        // of twenty RAISED but one, and some on SHELVES, one ITEM is left
+        RaisedQueue many = fine("heap a; shelf s plain; share 0; grows 99;"
+            + items(20, "a").replace("za plain 1", "za plain 0").replace("zq plain 1", "zq plain 0"));
+        Check.same("RAISED", many.count(5), 2);
+        Check.same("a WORK with a full SHELF", Check.work(many, "shelve a s; shelve a s; shelve a s; shelve a s;"), 0);
+        Check.same("judged", many.judged(0), NONE);
+        for (int i = 0; i < 4; i++) {
+            Check.same("on the SHELF", many.shelve(0, 0), 1);
+        }
+        Check.same("a QUEUE of one ITEM", Check.queue(many, "heap a; heap b; shelf s plain; item i plain 5 over 1 in a;"), 0);
+        Check.same("none RAISED", many.count(5), 0);
+        Check.same("the SHELF is empty", many.shelf(0), 0);
+        Check.same("none RAISED when judged", many.judged(2), 0);
+        Check.same("none RAISED in days to come", many.days(0, 1, 1), 0);
+        Check.same("shelve", many.shelve(0, 0), 1);
+        Check.same("on the first place", many.item(0, 3), 0);
+        Check.same("a WORK", Check.work(many, "shelve a s;"), 0);
+        Check.same("none on the FLOOR", many.judged(1), 0);
 
         Check.heading(QUEUE, "its ITEMS were PUT into their HEAPS, one behind another, as told");
         // i, j: RANK 1 of all 2; k, l: RANK 1 of all 4, so RANK 2 of all 4
