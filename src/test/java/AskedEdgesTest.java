@@ -7,7 +7,6 @@ import java.util.NoSuchElementException;
 public final class AskedEdgesTest {
     private static final int NONE = RaisedQueue.NONE;
     private static final int THROWN = -77;
-    private static final int[] FAR_OUT = {-1, -2, Integer.MIN_VALUE, Integer.MAX_VALUE};
     private static final String[] KINDS = {"plain", "urgent", "late", "odd"};
     private static final String FIRST = "Promise 16, first";
     private static final String COMES = "Promise 17, comes";
@@ -72,30 +71,8 @@ public final class AskedEdgesTest {
 
     // ---- of use to several ----
 
-    /** ITEMS of whole KEYS in a HEAP, by NAMES xa, xb, ..: the first one as told. */
-    private static String plain(char first, String heap, int... keys) {
-        StringBuilder text = new StringBuilder();
-        for (int i = 0; i < keys.length; i++) {
-            text.append("item x").append((char) (first + i)).append(" plain ").append(keys[i]).append(" over 1 in ")
-                .append(heap).append(';');
-        }
-        return text.toString();
-    }
-
     private static RaisedQueue ofKeys(String law, int... keys) {
-        return Check.told("heap a; heap b; heap c; shelf s plain; shelf t odd;" + law + plain('a', "a", keys));
-    }
-
-    private static int[] upTo(int most) {
-        int[] keys = new int[most];
-        for (int i = 0; i < most; i++) {
-            keys[i] = i + 1;
-        }
-        return keys;
-    }
-
-    private static int bits(double number) {
-        return Float.floatToIntBits((float) number);
+        return Check.told("heap a; heap b; heap c; shelf s plain; shelf t odd;" + law + Keys.plain('a', "a", keys));
     }
 
     private static int comesOf(RaisedQueue x, int heap, int i) {
@@ -129,7 +106,7 @@ public final class AskedEdgesTest {
         Check.same("of one", x.first(0), 0);
         Check.same("of an empty one", x.first(2), NONE);
         Check.same("of none", x.first(3), NONE);
-        for (int far : FAR_OUT) {
+        for (int far : Keys.FAR_OUT) {
             Check.same("heap " + far, x.first(far), NONE);
         }
         x.take(0);
@@ -144,7 +121,7 @@ public final class AskedEdgesTest {
         RaisedQueue x = ofKeys("grows 1;", 3, 1, 2);
         orderIs(x, 0, 1, 2, 0);
         Check.same("i -1", comesOf(x, 0, -1), THROWN);
-        for (int far : FAR_OUT) {
+        for (int far : Keys.FAR_OUT) {
             Check.same("i " + far, comesOf(x, 0, far), THROWN);
             Check.same("heap " + far, comesOf(x, far, 0), THROWN);
         }
@@ -153,7 +130,7 @@ public final class AskedEdgesTest {
         x.take(0);
         Check.same("of two: the last one", comesOf(x, 0, 1), 0);
         Check.same("of two: one beyond it", comesOf(x, 0, 2), THROWN);
-        RaisedQueue all = ofKeys("grows 1;", upTo(20));
+        RaisedQueue all = ofKeys("grows 1;", Keys.upTo(20));
         Check.same("the 20th", comesOf(all, 0, 19), 19);
         Check.same("the 21st", comesOf(all, 0, 20), THROWN);
         Check.same("all are there still", all.heap(0, 0), 20);
@@ -161,13 +138,13 @@ public final class AskedEdgesTest {
 
     private static void awayThrows() {
         Check.heading(AWAY, "AWAY. NoSuchElementException: others, not in it.");
-        RaisedQueue x = Check.told("heap a; heap b; shelf s plain;" + plain('a', "a", 1, 2, 3) + plain('d', "b", 4));
+        RaisedQueue x = Check.told("heap a; heap b; shelf s plain;" + Keys.plain('a', "a", 1, 2, 3) + Keys.plain('d', "b", 4));
         Check.same("in it", awayOf(x, 0, 0), 0);
         Check.same("in another one", awayOf(x, 0, 3), THROWN);
         Check.same("in that one", awayOf(x, 1, 3), 0);
         Check.same("the last ITEM and one", awayOf(x, 0, 4), THROWN);
         Check.same("of none", awayOf(x, 2, 0), THROWN);
-        for (int far : FAR_OUT) {
+        for (int far : Keys.FAR_OUT) {
             Check.same("item " + far, awayOf(x, 0, far), THROWN);
             Check.same("heap " + far, awayOf(x, far, 0), THROWN);
         }
@@ -190,7 +167,7 @@ public final class AskedEdgesTest {
             Check.same("of " + i, awayOf(x, 0, i), due[i]);
         }
         // equal KEYS: b of HEAP 1 is the first CHILD, a comes behind it and stands ahead of it
-        RaisedQueue y = Check.told("heap a; heap b; share 0;" + plain('a', "a", 5) + plain('b', "b", 5));
+        RaisedQueue y = Check.told("heap a; heap b; share 0;" + Keys.plain('a', "a", 5) + Keys.plain('b', "b", 5));
         y.meld(0, 1);
         orderIs(y, 1, 1, 0);
         Check.same("the greater number comes first", awayOf(y, 1, 1), -1);
@@ -208,7 +185,7 @@ public final class AskedEdgesTest {
         Check.same("of an empty one", x.wrongs(2), 0);
         Check.same("of one ITEM", ofKeys("", 1).wrongs(0), 0);
         Check.same("of none", x.wrongs(3), NONE);
-        for (int far : FAR_OUT) {
+        for (int far : Keys.FAR_OUT) {
             Check.same("heap " + far, x.wrongs(far), NONE);
         }
         Check.heading(WRONGS, "pairs of ITEMS of which the one that would come later has the lesser KEY");
@@ -220,7 +197,7 @@ public final class AskedEdgesTest {
         Check.same("of an empty one", x.far(2), 0);
         Check.same("of one ITEM", ofKeys("", 1).far(0), 0);
         Check.same("of none", x.far(3), NONE);
-        for (int far : FAR_OUT) {
+        for (int far : Keys.FAR_OUT) {
             Check.same("heap " + far, x.far(far), NONE);
         }
         Check.heading(FAR, "FAR: the most, without the sign, that any is AWAY");
@@ -239,11 +216,11 @@ public final class AskedEdgesTest {
         Check.same("at 5", x.select(0, 5), NONE);
         Check.same("of an empty one", x.select(2, 0), NONE);
         Check.same("of none", x.select(3, 0), NONE);
-        for (int far : FAR_OUT) {
+        for (int far : Keys.FAR_OUT) {
             Check.same("at " + far, x.select(0, far), NONE);
             Check.same("heap " + far, x.select(far, 0), NONE);
         }
-        RaisedQueue all = ofKeys("grows 9;", upTo(20));
+        RaisedQueue all = ofKeys("grows 9;", Keys.upTo(20));
         Check.same("at 19", all.select(0, 19), 19);
         Check.same("at 20", all.select(0, 20), NONE);
         Check.same("take", all.take(0), 0);
@@ -263,14 +240,14 @@ public final class AskedEdgesTest {
         Check.same("of an empty one", x.split(2, 0), NONE);
         Check.same("of an empty one: how many", x.split(2, 1), NONE);
         Check.same("of none", x.split(3, 0), NONE);
-        for (int far : FAR_OUT) {
+        for (int far : Keys.FAR_OUT) {
             Check.same("what " + far, x.split(0, far), NONE);
             Check.same("heap " + far, x.split(far, 0), NONE);
         }
         Check.heading(SPLIT, "a third (cut, 1 at least) of its ITEMS TAKEN");
         int[] due = {0, 0, 0, 0, 0, 1, 1, 1, 2, 2, 2, 3, 3, 3, 4, 4, 4, 5, 5, 5};
         for (int many = 1; many <= 20; many++) {
-            RaisedQueue y = ofKeys("grows 1;", upTo(many));
+            RaisedQueue y = ofKeys("grows 1;", Keys.upTo(many));
             Check.same("of " + many, y.split(0, 0), due[many - 1]);
             Check.same("of " + many + ": how many", y.split(0, 1), due[many - 1]);
             Check.same("none is TAKEN", y.heap(0, 0), many);
@@ -279,19 +256,19 @@ public final class AskedEdgesTest {
         Check.same("the greatest KEY, not the greatest number", ofKeys("grows 1;", 6, 2, 5, 1, 4, 3).split(0, 0), 1);
         // 7 and 5 come, 7 first
         Check.same("the greatest KEY, not the last one", ofKeys("grows 9;", 5, 6, 9, 9, 7, 7).split(0, 0), 5);
-        RaisedQueue equal = Check.told("heap a; heap b; share 0;" + plain('a', "a", 5, 9, 9) + plain('d', "b", 5, 9, 9));
+        RaisedQueue equal = Check.told("heap a; heap b; share 0;" + Keys.plain('a', "a", 5, 9, 9) + Keys.plain('d', "b", 5, 9, 9));
         equal.meld(0, 1);
         Check.same("of equal ones the greatest number", equal.split(1, 0), equal.select(1, equal.split(1, 1)));
         RaisedQueue six = ofKeys("grows 1;", 5, 5, 5, 5, 5, 5);
         orderIs(six, 0, 4, 5, 0, 1, 2, 3);
         Check.same("4 and 5 come: 5", six.split(0, 0), 5);
-        RaisedQueue turned = Check.told("heap a; heap b; share 6;" + plain('a', "a", 5, 7, 7, 7) + plain('e', "b", 5, 7));
+        RaisedQueue turned = Check.told("heap a; heap b; share 6;" + Keys.plain('a', "a", 5, 7, 7, 7) + Keys.plain('e', "b", 5, 7));
         turned.meld(0, 1);
         // e, f of RANK 1 stay, a .. d of RANK 2 take their place: of equal CKEYS the least RANK
         orderIs(turned, 1, 4, 0, 5, 1, 2, 3);
         Check.same("4 and 0 come: 4", turned.split(1, 0), 4);
         // 7, then 8, in NODES of their own; 5, 7 in one LIST under 7, then under 9: of equal CKEYS the least RANK
-        RaisedQueue zero = Check.told("heap a; heap b; grows (rank = 2) * 2;" + plain('a', "b", 7, 8) + plain('c', "a", 5, 7, 9, 9));
+        RaisedQueue zero = Check.told("heap a; heap b; grows (rank = 2) * 2;" + Keys.plain('a', "b", 7, 8) + Keys.plain('c', "a", 5, 7, 9, 9));
         zero.meld(1, 0);
         orderIs(zero, 0, 0, 2, 1, 3, 4, 5);
         Check.same("7, ITEM 0, then 5 come: 7", zero.split(0, 0), 0);
@@ -309,7 +286,7 @@ public final class AskedEdgesTest {
         Check.same("at 3", x.steps(0, 3), NONE);
         Check.same("of an empty one", x.steps(2, 0), NONE);
         Check.same("of none", x.steps(3, 0), NONE);
-        for (int far : FAR_OUT) {
+        for (int far : Keys.FAR_OUT) {
             Check.same("at " + far, x.steps(0, far), NONE);
             Check.same("heap " + far, x.steps(far, 0), NONE);
         }
@@ -317,7 +294,7 @@ public final class AskedEdgesTest {
         Check.heading(STEPS, "if that is not it, of those ahead of it by KEYS, or those behind it, among which it is; and so on");
         // SPLITS of 20: place 5; of 0 .. 4: 0, 1, 2, 3, 4; of 6 .. 19: 9; of 6 .. 8: 6, 7, 8; of 10 .. 19: 12, ..
         int[] due = {2, 3, 4, 5, 6, 1, 3, 4, 5, 2, 4, 5, 3, 5, 4, 5, 6, 7, 8, 9};
-        RaisedQueue y = ofKeys("grows 1;", upTo(20));
+        RaisedQueue y = ofKeys("grows 1;", Keys.upTo(20));
         for (int i = 0; i < 20; i++) {
             Check.same("at " + i + " of 20", y.steps(0, i), due[i]);
         }
@@ -346,7 +323,7 @@ public final class AskedEdgesTest {
         Check.same("then 7", z.steps(0, 1), 2);
         Check.same("then 8", z.steps(0, 2), 3);
         // by numbers 9 and 4 are JOINED when the HEAP has 2: 4, 9 in one LIST under 9, and 8 alone comes first
-        RaisedQueue y = Check.told("heap a; heap b; grows (all < 3) * 9;" + plain('a', "b", 1) + plain('b', "a", 9, 4, 8));
+        RaisedQueue y = Check.told("heap a; heap b; grows (all < 3) * 9;" + Keys.plain('a', "b", 1) + Keys.plain('b', "a", 9, 4, 8));
         Check.same("8: what other HEAPS have does not count", y.steps(0, 1), 1);
         Check.same("4: ahead of it", y.steps(0, 0), 2);
         Check.same("9: behind it", y.steps(0, 2), 2);
@@ -358,14 +335,14 @@ public final class AskedEdgesTest {
     private static void worth() {
         Check.heading(WORTH, "WORTH; NONE: others.");
         RaisedQueue x = ofKeys("", 7);
-        Check.same("of one", x.worth(0), bits(7));
+        Check.same("of one", x.worth(0), Keys.bits(7));
         Check.same("of an empty one", x.worth(2), 0);
         Check.same("of none", x.worth(3), NONE);
-        for (int far : FAR_OUT) {
+        for (int far : Keys.FAR_OUT) {
             Check.same("heap " + far, x.worth(far), NONE);
         }
         Check.same("20 of the greatest", ofKeys("", 999, 999, 999, 999, 999, 999, 999, 999, 999, 999, 999, 999, 999, 999, 999,
-            999, 999, 999, 999, 999).worth(0), bits(19980));
+            999, 999, 999, 999, 999).worth(0), Keys.bits(19980));
         Check.same("only 0", ofKeys("", 0, 0).worth(0), 0);
         Check.heading(WORTH, "its KEYS added in the order in which they would come");
         // each 0.1 is too little to move 999 + .. by a whole digit, together they are not
@@ -390,19 +367,19 @@ public final class AskedEdgesTest {
     private static void mean() {
         Check.heading(MEAN, "MEAN: WORTH over how many there are, SINGLE (0: none), likewise. NONE: others.");
         RaisedQueue x = ofKeys("grows 1;", 7, 8);
-        Check.same("of two", x.mean(0), bits(7.5));
+        Check.same("of two", x.mean(0), Keys.bits(7.5));
         Check.same("of none in it", x.mean(2), 0);
         Check.same("of none", x.mean(3), NONE);
-        for (int far : FAR_OUT) {
+        for (int far : Keys.FAR_OUT) {
             Check.same("heap " + far, x.mean(far), NONE);
         }
         x.take(0);
-        Check.same("of one", x.mean(0), bits(8));
+        Check.same("of one", x.mean(0), Keys.bits(8));
         x.take(0);
         Check.same("emptied", x.mean(0), 0);
         Check.same("a third", ofKeys("", 1, 0, 0).mean(0), 0x3eaaaaab);
         Check.same("two thirds", ofKeys("", 1, 1, 0).mean(0), 0x3f2aaaab);
-        Check.same("a 20th of 1", ofKeys("", 1, 0, 0, 0, 0, 0, 0, 0, 0, 0, 0, 0, 0, 0, 0, 0, 0, 0, 0, 0).mean(0), bits(0.05));
+        Check.same("a 20th of 1", ofKeys("", 1, 0, 0, 0, 0, 0, 0, 0, 0, 0, 0, 0, 0, 0, 0, 0, 0, 0, 0, 0).mean(0), Keys.bits(0.05));
     }
 
     private static int bitsOf(String kind, String quotient) {
@@ -454,15 +431,15 @@ public final class AskedEdgesTest {
         }
         Check.heading(BITS, "BITS; NONE: others.");
         RaisedQueue x = ofKeys("", 4, 5);
-        Check.same("the last one", x.bits(1), bits(5));
+        Check.same("the last one", x.bits(1), Keys.bits(5));
         Check.same("one beyond it", x.bits(2), NONE);
-        for (int far : FAR_OUT) {
+        for (int far : Keys.FAR_OUT) {
             Check.same("item " + far, x.bits(far), NONE);
         }
         x.take(0);
-        Check.same("on the FLOOR", x.bits(0), bits(4));
+        Check.same("on the FLOOR", x.bits(0), Keys.bits(4));
         x.shelve(0, 0);
-        Check.same("on a SHELF", x.bits(1), bits(5));
+        Check.same("on a SHELF", x.bits(1), Keys.bits(5));
     }
 
     private static void thousand() {
@@ -478,7 +455,7 @@ public final class AskedEdgesTest {
         RaisedQueue x = ofKeys("", 4, 5);
         Check.same("the last one", x.thousand(1), 5000);
         Check.same("one beyond it", x.thousand(2), NONE);
-        for (int far : FAR_OUT) {
+        for (int far : Keys.FAR_OUT) {
             Check.same("item " + far, x.thousand(far), NONE);
         }
         x.take(0);
@@ -488,10 +465,10 @@ public final class AskedEdgesTest {
     private static void lift() {
         Check.heading(LIFT, "LIFT; NONE: others, in no HEAP.");
         RaisedQueue x = ofKeys("share 0;", 4, 6);
-        Check.same("RAISED by 2", x.lift(0), bits(2));
+        Check.same("RAISED by 2", x.lift(0), Keys.bits(2));
         Check.same("not RAISED", x.lift(1), 0);
         Check.same("one beyond the last", x.lift(2), NONE);
-        for (int far : FAR_OUT) {
+        for (int far : Keys.FAR_OUT) {
             Check.same("item " + far, x.lift(far), NONE);
         }
         x.take(0);
@@ -506,7 +483,7 @@ public final class AskedEdgesTest {
         Check.same("SINGLE", y.lift(0), Float.floatToIntBits(2f / 3f - (1f / 3f + 0.1f)));
         RaisedQueue deep = ofKeys("grows (rank = 1) * 2;", 1, 2, 3, 7);
         Check.same("of a NODE below", deep.depth(2), 1);
-        Check.same("by its CKEY, not the ROOT's", deep.lift(2), bits(4));
+        Check.same("by its CKEY, not the ROOT's", deep.lift(2), Keys.bits(4));
     }
 
     // ---- Promises 29, 30 ----
@@ -524,13 +501,13 @@ public final class AskedEdgesTest {
         Check.same("2 of 4 by share 2", ofKeys("share 2; grows 2;", 1, 2, 3, 4).bound(0), false);
         Check.same("3 of 4 by share 1", ofKeys("share 1; grows 4;", 1, 2, 3, 4).bound(0), false);
         Check.same("3 of 4 by share 0", ofKeys("share 0; grows 4;", 1, 2, 3, 4).bound(0), true);
-        Check.same("15 of 16 by share 0", ofKeys("share 0; grows 99;", upTo(16)).bound(0), true);
-        Check.same("none of 20 by share 6", ofKeys("share 6; grows 1;", upTo(20)).bound(0), true);
-        Check.same("1 of 20 by share 6", ofKeys("share 6; grows 1 + (all = 2);", upTo(20)).bound(0), false);
+        Check.same("15 of 16 by share 0", ofKeys("share 0; grows 99;", Keys.upTo(16)).bound(0), true);
+        Check.same("none of 20 by share 6", ofKeys("share 6; grows 1;", Keys.upTo(20)).bound(0), true);
+        Check.same("1 of 20 by share 6", ofKeys("share 6; grows 1 + (all = 2);", Keys.upTo(20)).bound(0), false);
         Check.heading(BOUND, "BOUND; false: others.");
         Check.same("an empty one", four.bound(2), true);
         Check.same("none", four.bound(3), false);
-        for (int far : FAR_OUT) {
+        for (int far : Keys.FAR_OUT) {
             Check.same("heap " + far, four.bound(far), false);
         }
     }
@@ -543,17 +520,17 @@ public final class AskedEdgesTest {
         Check.same("two below", x.depth(3), 2);
         Check.same("in a ROOT of RANK 0", x.depth(4), 0);
         Check.same("one beyond the last", x.depth(5), NONE);
-        for (int far : FAR_OUT) {
+        for (int far : Keys.FAR_OUT) {
             Check.same("item " + far, x.depth(far), NONE);
         }
         x.take(0);
         Check.same("on the FLOOR", x.depth(0), NONE);
         x.shelve(0, 0);
         Check.same("on a SHELF", x.depth(1), NONE);
-        RaisedQueue deep = ofKeys("grows 1;", upTo(16));
+        RaisedQueue deep = ofKeys("grows 1;", Keys.upTo(16));
         Check.same("four below", deep.depth(15), 4);
         Check.same("none above", deep.depth(0), 0);
-        Check.same("of one LIST none is below", ofKeys("grows 99;", upTo(16)).depth(15), 0);
+        Check.same("of one LIST none is below", ofKeys("grows 99;", Keys.upTo(16)).depth(15), 0);
     }
 
     // ---- Promises 31 to 33 ----
@@ -567,7 +544,7 @@ public final class AskedEdgesTest {
         Check.same("i 10 would not", x.see(10, 0, false), false);
         Check.same("KIND 3", x.see(0, 3, false), true);
         Check.same("KIND 4", x.see(0, 4, true), false);
-        for (int far : FAR_OUT) {
+        for (int far : Keys.FAR_OUT) {
             Check.same("i " + far, x.see(far, 0, true), false);
             Check.same("KIND " + far, x.see(0, far, false), false);
         }
@@ -601,13 +578,13 @@ public final class AskedEdgesTest {
         Check.same("none gives a tenth one", y.who(), 6);
         y.see(9, 0, true);
         Check.same("none is so", y.who(), 0);
-        RaisedQueue ten = ofKeys("grows 1;", upTo(10));
+        RaisedQueue ten = ofKeys("grows 1;", Keys.upTo(10));
         ten.see(9, 0, true);
         Check.same("the tenth of ten", ten.who(), 1);
-        RaisedQueue nine = ofKeys("grows 1;", upTo(9));
+        RaisedQueue nine = ofKeys("grows 1;", Keys.upTo(9));
         nine.see(9, 0, true);
         Check.same("the tenth of nine", nine.who(), 0);
-        RaisedQueue eleven = ofKeys("grows 1;", upTo(11));
+        RaisedQueue eleven = ofKeys("grows 1;", Keys.upTo(11));
         eleven.see(0, 0, true);
         Check.same("the eleventh of one HEAP is not the first of the next one", eleven.who(), 1);
         for (int kind = 0; kind < 4; kind++) {
@@ -715,14 +692,14 @@ public final class AskedEdgesTest {
             Check.same("SEED 10000, what " + what, x.days(10000, 1, what), NONE);
             Check.same("none of them, what " + what, x.days(0, 0, what), NONE);
             Check.same("100 of them, what " + what, x.days(0, 100, what), NONE);
-            for (int far : FAR_OUT) {
+            for (int far : Keys.FAR_OUT) {
                 Check.same("SEED " + far, x.days(far, 1, what), NONE);
                 Check.same("many " + far, x.days(0, far, what), NONE);
             }
         }
         Check.same("9 are SHUT", x.count(6), 9);
         Check.same("what 3", x.days(0, 1, 3), NONE);
-        for (int far : FAR_OUT) {
+        for (int far : Keys.FAR_OUT) {
             Check.same("what " + far, x.days(0, 1, far), NONE);
         }
         Check.same("the others are not SHUT", x.count(6), 9);
@@ -810,7 +787,7 @@ public final class AskedEdgesTest {
         Check.same("back to 0", x.mark(0, true), true);
         Check.same("no 2", x.mark(2, false), false);
         Check.same("no 2 to go back to", x.mark(2, true), false);
-        for (int far : FAR_OUT) {
+        for (int far : Keys.FAR_OUT) {
             Check.same("no " + far, x.mark(far, false), false);
             Check.same("no " + far + " to go back to", x.mark(far, true), false);
         }
@@ -980,7 +957,7 @@ public final class AskedEdgesTest {
         RaisedQueue x = ofKeys("share 0;", 1, 2, 3, 4);
         countsAre(x, 3, 2, 4, 0, 0, 3, 0, 0, 0, 0, 0);
         Check.same("what 11", x.count(11), NONE);
-        for (int far : FAR_OUT) {
+        for (int far : Keys.FAR_OUT) {
             Check.same("what " + far, x.count(far), NONE);
         }
         Check.same("count is not SHUT", x.count(6), 0);
@@ -996,7 +973,7 @@ public final class AskedEdgesTest {
         countsAre(x, 3, 2, 4, 0, 1, 0, 1, 2, 1, 4, 2);
         countsAre(Check.told("heap a; share 6;"), 1, 0, 0, 6, 0, 0, 0, 0, 0, 0, 0);
         Check.heading(COUNT, "4: how many ITEMS lie on the FLOOR, 5: how many are RAISED");
-        RaisedQueue y = Check.told("heap a; heap b; share 0;" + plain('a', "a", upTo(16)) + plain('q', "b", 1, 2, 2, 2));
+        RaisedQueue y = Check.told("heap a; heap b; share 0;" + Keys.plain('a', "a", Keys.upTo(16)) + Keys.plain('q', "b", 1, 2, 2, 2));
         Check.same("of both HEAPS", y.count(5), y.heap(0, 2) + y.heap(1, 2));
         Check.same("1 under 2 alone, in b", y.heap(1, 2), 1);
         for (int i = 0; i < 20; i++) {
@@ -1048,7 +1025,7 @@ public final class AskedEdgesTest {
             + " throw");
         int[] others = {0, 1, 2, 3, 20, -1, Integer.MAX_VALUE, Integer.MIN_VALUE};
         for (int question = 0; question < 9; question++) {
-            RaisedQueue x = Check.told("heap a; heap b;" + plain('a', "a", 1, 2, 3));
+            RaisedQueue x = Check.told("heap a; heap b;" + Keys.plain('a', "a", 1, 2, 3));
             int due = 0;
             for (int other : others) {
                 for (int heap = 0; heap < 2; heap++) {
@@ -1123,7 +1100,7 @@ public final class AskedEdgesTest {
 
     private static void allIsAsAhead() {
         Check.heading("Promises 16 to 34", "all is as ahead, however it ended");
-        RaisedQueue x = Check.told("heap a; heap b; shelf s plain; share 0;" + plain('a', "a", 9, 2, 7, 4, 5) + plain('f', "b", 1, 2));
+        RaisedQueue x = Check.told("heap a; heap b; shelf s plain; share 0;" + Keys.plain('a', "a", 9, 2, 7, 4, 5) + Keys.plain('f', "b", 1, 2));
         x.take(0);
         x.shelve(1, 0);
         x.see(0, 0, true);
@@ -1171,8 +1148,8 @@ public final class AskedEdgesTest {
     }
 
     private static RaisedQueue ofThree() {
-        RaisedQueue x = Check.told("heap a; heap b; heap c; share 0;" + plain('a', "a", 8, 5, 7, 6)
-            + plain('e', "b", 9, 3, 4) + plain('h', "c", 2, 1, 2, 1, 5, 6));
+        RaisedQueue x = Check.told("heap a; heap b; heap c; share 0;" + Keys.plain('a', "a", 8, 5, 7, 6)
+            + Keys.plain('e', "b", 9, 3, 4) + Keys.plain('h', "c", 2, 1, 2, 1, 5, 6));
         Check.same("a WORK", Check.work(x, "take a; take b; meld a b; take c; take c;"), 0);
         Check.same("SEEN", x.see(3, 3, false), true);
         Check.same("take", x.take(2) >= 0, true);

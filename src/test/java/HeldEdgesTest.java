@@ -4,7 +4,6 @@
  */
 public final class HeldEdgesTest {
     private static final int NONE = RaisedQueue.NONE;
-    private static final int[] FAR_OUT = {-1, -2, Integer.MIN_VALUE, Integer.MAX_VALUE};
     private static final String ITEM = "Promise 5, item";
     private static final String HEAP = "Promise 6, heap";
     private static final String TREE = "Promise 7, tree";
@@ -52,30 +51,8 @@ public final class HeldEdgesTest {
 
     // ---- of use to several ----
 
-    /** ITEMS of whole KEYS in a HEAP, by NAMES xa, xb, ..: the first one as told. */
-    private static String plain(char first, String heap, int... keys) {
-        StringBuilder text = new StringBuilder();
-        for (int i = 0; i < keys.length; i++) {
-            text.append("item x").append((char) (first + i)).append(" plain ").append(keys[i]).append(" over 1 in ")
-                .append(heap).append(';');
-        }
-        return text.toString();
-    }
-
     private static RaisedQueue ofKeys(String law, int... keys) {
-        return Check.told("heap a; heap b; heap c; shelf s plain; shelf t plain;" + law + plain('a', "a", keys));
-    }
-
-    private static int[] upTo(int most) {
-        int[] keys = new int[most];
-        for (int i = 0; i < most; i++) {
-            keys[i] = i + 1;
-        }
-        return keys;
-    }
-
-    private static int bits(double number) {
-        return Float.floatToIntBits((float) number);
+        return Check.told("heap a; heap b; heap c; shelf s plain; shelf t plain;" + law + Keys.plain('a', "a", keys));
     }
 
     private static void listIs(RaisedQueue x, int heap, int tree, int... items) {
@@ -116,15 +93,15 @@ public final class HeldEdgesTest {
             Check.same("the first one, what " + what, x.item(0, what) != -2, true);
             Check.same("the last one, what " + what, x.item(2, what) != -2, true);
             Check.same("one beyond it, what " + what, x.item(3, what), -2);
-            for (int far : FAR_OUT) {
+            for (int far : Keys.FAR_OUT) {
                 Check.same("item " + far + ", what " + what, x.item(far, what), -2);
             }
         }
         Check.same("what 5", x.item(0, 5), -2);
-        for (int far : FAR_OUT) {
+        for (int far : Keys.FAR_OUT) {
             Check.same("what " + far, x.item(0, far), -2);
         }
-        RaisedQueue full = ofKeys("", upTo(20));
+        RaisedQueue full = ofKeys("", Keys.upTo(20));
         Check.same("the 20th", full.item(19, 0), 0);
         Check.same("the 21st", full.item(20, 0), -2);
     }
@@ -186,13 +163,13 @@ public final class HeldEdgesTest {
             Check.same("what " + what, x.heap(0, what), due[what]);
             Check.same("of an empty HEAP, what " + what, x.heap(2, what), what == 3 ? NONE : 0);
             Check.same("of no HEAP, what " + what, x.heap(3, what), -2);
-            for (int far : FAR_OUT) {
+            for (int far : Keys.FAR_OUT) {
                 Check.same("heap " + far + ", what " + what, x.heap(far, what), -2);
             }
         }
         Check.same("what 4", x.heap(0, 4), -2);
         Check.same("what 4 of an empty one", x.heap(2, 4), -2);
-        for (int far : FAR_OUT) {
+        for (int far : Keys.FAR_OUT) {
             Check.same("what " + far, x.heap(0, far), -2);
         }
         RaisedQueue one = Check.told("heap a;");
@@ -222,13 +199,13 @@ public final class HeldEdgesTest {
             Check.same("one beyond it, what " + what, x.tree(0, 2, what), NONE);
             Check.same("of an empty HEAP, what " + what, x.tree(1, 0, what), NONE);
             Check.same("of no HEAP, what " + what, x.tree(3, 0, what), NONE);
-            for (int far : FAR_OUT) {
+            for (int far : Keys.FAR_OUT) {
                 Check.same("tree " + far + ", what " + what, x.tree(0, far, what), NONE);
                 Check.same("heap " + far + ", what " + what, x.tree(far, 0, what), NONE);
             }
         }
         Check.same("what 5", x.tree(0, 0, 5), NONE);
-        for (int far : FAR_OUT) {
+        for (int far : Keys.FAR_OUT) {
             Check.same("what " + far, x.tree(0, 0, far), NONE);
         }
         RaisedQueue y = ofKeys("", 1);
@@ -240,7 +217,7 @@ public final class HeldEdgesTest {
     private static void treeValues() {
         Check.heading(TREE, "Of the i-th TREE (from 0, by RANKS) of a HEAP, of its ROOT, what 0: RANK");
         for (int many = 1; many <= 20; many++) {
-            RaisedQueue x = ofKeys("", upTo(many));
+            RaisedQueue x = ofKeys("", Keys.upTo(many));
             int tree = 0;
             for (int rank = 0; rank < 5; rank++) {
                 if ((many >> rank & 1) == 1) {
@@ -254,16 +231,16 @@ public final class HeldEdgesTest {
         Check.heading(TREE, "1: TARGET, 2: how long the LIST is, 3: CKEY, by its bits, 4: how many NODES the TREE has");
         // PUT: a LEAF of RANK 0, TARGET 1, its KEY the CKEY, its LIST it alone
         RaisedQueue leaf = ofKeys("grows 7;", 5);
-        int[] due = {0, 1, 1, bits(5), 1};
+        int[] due = {0, 1, 1, Keys.bits(5), 1};
         for (int what = 0; what <= 4; what++) {
             Check.same("a LEAF, what " + what, leaf.tree(0, 0, what), due[what]);
         }
         RaisedQueue zero = ofKeys("", 0);
         Check.same("a CKEY of 0", zero.tree(0, 0, 3), 0);
-        RaisedQueue twenty = ofKeys("grows 1;", upTo(16));
+        RaisedQueue twenty = ofKeys("grows 1;", Keys.upTo(16));
         Check.same("NODES of 16 that are alone", twenty.tree(0, 0, 4), 16);
-        Check.same("NODES of 16 in one LIST", ofKeys("grows 99;", upTo(16)).tree(0, 0, 4), 1);
-        Check.same("TARGET 99", ofKeys("grows 99;", upTo(16)).tree(0, 0, 1), 99);
+        Check.same("NODES of 16 in one LIST", ofKeys("grows 99;", Keys.upTo(16)).tree(0, 0, 4), 1);
+        Check.same("TARGET 99", ofKeys("grows 99;", Keys.upTo(16)).tree(0, 0, 1), 99);
     }
 
     private static void listedOthers() {
@@ -274,12 +251,12 @@ public final class HeldEdgesTest {
         Check.same("of a TREE that is not there", x.listed(0, 2, 0), NONE);
         Check.same("of an empty HEAP", x.listed(1, 0, 0), NONE);
         Check.same("of no HEAP", x.listed(3, 0, 0), NONE);
-        for (int far : FAR_OUT) {
+        for (int far : Keys.FAR_OUT) {
             Check.same("at " + far, x.listed(0, 1, far), NONE);
             Check.same("of tree " + far, x.listed(0, far, 0), NONE);
             Check.same("of heap " + far, x.listed(far, 0, 0), NONE);
         }
-        RaisedQueue all = ofKeys("grows 99;", upTo(16));
+        RaisedQueue all = ofKeys("grows 99;", Keys.upTo(16));
         for (int i = 0; i < 16; i++) {
             Check.same("at " + i, all.listed(0, 0, i), i);
         }
@@ -292,7 +269,7 @@ public final class HeldEdgesTest {
 
     private static void shelfOthers() {
         Check.heading(SHELF, "How many ITEMS stand on a SHELF; NONE: others.");
-        RaisedQueue x = ofKeys("grows 1;", upTo(6));
+        RaisedQueue x = ofKeys("grows 1;", Keys.upTo(6));
         for (int many = 0; many <= 4; many++) {
             Check.same("how many, " + many, x.shelf(1), many);
             Check.same("the other one", x.shelf(0), 0);
@@ -300,7 +277,7 @@ public final class HeldEdgesTest {
         }
         Check.same("never five", x.shelf(1), 4);
         Check.same("no third SHELF", x.shelf(2), NONE);
-        for (int far : FAR_OUT) {
+        for (int far : Keys.FAR_OUT) {
             Check.same("shelf " + far, x.shelf(far), NONE);
         }
         RaisedQueue one = Check.told("shelf s odd;");
@@ -320,7 +297,7 @@ public final class HeldEdgesTest {
         String before = picture(x);
         Check.same("of the last ITEM and one", x.put(3, 0), false);
         Check.same("into the last HEAP and one", x.put(0, 3), false);
-        for (int far : FAR_OUT) {
+        for (int far : Keys.FAR_OUT) {
             Check.same("item " + far, x.put(far, 0), false);
             Check.same("heap " + far, x.put(0, far), false);
         }
@@ -383,25 +360,25 @@ public final class HeldEdgesTest {
         RaisedQueue one = ofKeys("grows 1;", 5, 4);
         listIs(one, 0, 0, 1);
         Check.same("the other one is below", one.depth(0), 1);
-        Check.same("CKEY", one.tree(0, 0, 3), bits(4));
+        Check.same("CKEY", one.tree(0, 0, 3), Keys.bits(4));
         RaisedQueue two = ofKeys("grows 2;", 5, 4);
         listIs(two, 0, 0, 1, 0);
         Check.same("none is below", two.depth(0), 0);
-        Check.same("CKEY", two.tree(0, 0, 3), bits(5));
+        Check.same("CKEY", two.tree(0, 0, 3), Keys.bits(5));
     }
 
     private static void siftAsLongAs() {
         Check.heading(PUT, "SIFT a NODE: as long as its LIST has fewer than TARGET");
         for (int target = 1; target <= 8; target++) {
-            RaisedQueue x = ofKeys("grows (rank = 3) * " + target + ";", upTo(8));
+            RaisedQueue x = ofKeys("grows (rank = 3) * " + target + ";", Keys.upTo(8));
             Check.same("TARGET " + target, x.tree(0, 0, 1), target);
             Check.same("LIST by TARGET " + target, x.tree(0, 0, 2), target);
-            Check.same("CKEY by TARGET " + target, x.tree(0, 0, 3), bits(target));
+            Check.same("CKEY by TARGET " + target, x.tree(0, 0, 3), Keys.bits(target));
             Check.same("NODES by TARGET " + target, x.tree(0, 0, 4), 1 + 8 - target);
             Check.same("RAISED by TARGET " + target, x.heap(0, 2), target - 1);
         }
         Check.heading(PUT, "and it is no LEAF");
-        RaisedQueue leaf = ofKeys("grows (rank = 3) * 9;", upTo(8));
+        RaisedQueue leaf = ofKeys("grows (rank = 3) * 9;", Keys.upTo(8));
         Check.same("TARGET", leaf.tree(0, 0, 1), 9);
         Check.same("LIST", leaf.tree(0, 0, 2), 8);
         Check.same("NODES", leaf.tree(0, 0, 4), 1);
@@ -411,11 +388,11 @@ public final class HeldEdgesTest {
         RaisedQueue x = ofKeys("grows (rank = 1) * 2 + (rank = 2) * 3;", 7, 8, 5, 6);
         listIs(x, 0, 0, 2, 3, 0, 1);
         Check.same("more than TARGET", x.tree(0, 0, 1), 3);
-        Check.same("its CKEY is that one's", x.tree(0, 0, 3), bits(8));
+        Check.same("its CKEY is that one's", x.tree(0, 0, 3), Keys.bits(8));
         // a TARGET of 2 is met by the first LIST
         RaisedQueue y = ofKeys("grows 2;", 7, 8, 5, 6);
         listIs(y, 0, 0, 2, 3);
-        Check.same("its CKEY is that one's", y.tree(0, 0, 3), bits(6));
+        Check.same("its CKEY is that one's", y.tree(0, 0, 3), Keys.bits(6));
     }
 
     private static void siftChildren() {
@@ -431,7 +408,7 @@ public final class HeldEdgesTest {
         Check.same("take", x.take(0), 0);
         listIs(x, 0, 0, 1);
         Check.same("NODES", x.tree(0, 0, 4), 1);
-        Check.same("CKEY", x.tree(0, 0, 3), bits(5));
+        Check.same("CKEY", x.tree(0, 0, 3), Keys.bits(5));
         // an empty place for the first CHILD, a KEY of 0 in the second one
         RaisedQueue zero = ofKeys("grows 1;", 0, 0);
         Check.same("take", zero.take(0), 0);
@@ -460,7 +437,7 @@ public final class HeldEdgesTest {
         RaisedQueue x = ofKeys("", 1);
         Check.same("of an empty one", x.take(2), NONE);
         Check.same("of none", x.take(3), NONE);
-        for (int far : FAR_OUT) {
+        for (int far : Keys.FAR_OUT) {
             Check.same("heap " + far, x.take(far), NONE);
         }
         Check.same("none of these can be undone", x.count(9), 0);
@@ -495,19 +472,19 @@ public final class HeldEdgesTest {
         // how long the LIST is behind each of three TAKES, by TARGETS 1 to 6; of 16 ITEMS none is wanting
         int[][] due = {{1, 1, 1}, {2, 2, 2}, {2, 3, 2}, {3, 4, 3}, {4, 3, 5}, {5, 4, 6}};
         for (int target = 1; target <= 6; target++) {
-            RaisedQueue x = ofKeys("grows (rank = 4) * " + target + ";", upTo(16));
+            RaisedQueue x = ofKeys("grows (rank = 4) * " + target + ";", Keys.upTo(16));
             Check.same("LIST of TARGET " + target, x.tree(0, 0, 2), target);
             for (int i = 0; i < 3; i++) {
                 Check.same("take by TARGET " + target, x.take(0), i);
                 Check.same("LIST of TARGET " + target + " behind " + (i + 1), x.tree(0, 0, 2), due[target - 1][i]);
             }
         }
-        RaisedQueue x = ofKeys("grows (rank = 3) * 4;", upTo(8));
-        Check.same("CKEY", x.tree(0, 0, 3), bits(4));
+        RaisedQueue x = ofKeys("grows (rank = 3) * 4;", Keys.upTo(8));
+        Check.same("CKEY", x.tree(0, 0, 3), Keys.bits(4));
         x.take(0);
-        Check.same("3 of 4 are left: not SIFTED", x.tree(0, 0, 3), bits(4));
+        Check.same("3 of 4 are left: not SIFTED", x.tree(0, 0, 3), Keys.bits(4));
         x.take(0);
-        Check.same("2 of 4 are left: SIFTED", x.tree(0, 0, 3), bits(6));
+        Check.same("2 of 4 are left: SIFTED", x.tree(0, 0, 3), Keys.bits(6));
     }
 
     private static void takeLastOfAList() {
@@ -544,7 +521,7 @@ public final class HeldEdgesTest {
         }
         Check.same("of none", x.meld(3, 0), false);
         Check.same("into none", x.meld(0, 3), false);
-        for (int far : FAR_OUT) {
+        for (int far : Keys.FAR_OUT) {
             Check.same("of " + far, x.meld(far, 0), false);
             Check.same("into " + far, x.meld(0, far), false);
             Check.same("of and into " + far, x.meld(far, far), false);
@@ -564,16 +541,16 @@ public final class HeldEdgesTest {
     private static void meldByRanks() {
         Check.heading(MELD, "its TREES, by RANKS, are JOINED to the other one");
         // d of RANK 0 is JOINED to a; that, the HEAP's, is the first CHILD, then comes b, c of RANK 1
-        RaisedQueue x = Check.told("heap a; heap b; share 0;" + plain('a', "a", 5) + plain('b', "b", 5, 5, 5));
+        RaisedQueue x = Check.told("heap a; heap b; share 0;" + Keys.plain('a', "a", 5) + Keys.plain('b', "b", 5, 5, 5));
         Check.same("meld", x.meld(1, 0), true);
         Check.same("one TREE", x.heap(0, 1), 1);
         listIs(x, 0, 0, 0, 3, 1, 2);
-        RaisedQueue y = Check.told("heap a; heap b; grows 1;" + plain('a', "a", upTo(5)) + plain('f', "b", upTo(3)));
+        RaisedQueue y = Check.told("heap a; heap b; grows 1;" + Keys.plain('a', "a", Keys.upTo(5)) + Keys.plain('f', "b", Keys.upTo(3)));
         Check.same("RANKS 0, 2 and 0, 1", y.meld(1, 0), true);
         Check.same("are RANK 3", y.tree(0, 0, 0), 3);
         Check.same("alone", y.heap(0, 1), 1);
         Check.same("of equal CKEYS the HEAP's is ahead", y.listed(0, 0, 0), 0);
-        RaisedQueue z = Check.told("heap a; heap b; grows 1;" + plain('a', "a", upTo(4)) + plain('f', "b", upTo(3)));
+        RaisedQueue z = Check.told("heap a; heap b; grows 1;" + Keys.plain('a', "a", Keys.upTo(4)) + Keys.plain('f', "b", Keys.upTo(3)));
         Check.same("RANKS 2 and 0, 1", z.meld(1, 0), true);
         Check.same("take their places", z.heap(0, 1), 3);
     }
@@ -582,11 +559,11 @@ public final class HeldEdgesTest {
 
     private static void shelveOthers() {
         Check.heading(SHELVE, "SHELVE: 1 on the SHELF, 0 on the FLOOR; NONE: others, it can't be.");
-        RaisedQueue x = Check.told("heap a; heap b; shelf s plain; shelf t odd;" + plain('a', "a", 1, 2));
+        RaisedQueue x = Check.told("heap a; heap b; shelf s plain; shelf t odd;" + Keys.plain('a', "a", 1, 2));
         Check.same("of an empty one", x.shelve(1, 0), NONE);
         Check.same("of none", x.shelve(2, 0), NONE);
         Check.same("on none", x.shelve(0, 2), NONE);
-        for (int far : FAR_OUT) {
+        for (int far : Keys.FAR_OUT) {
             Check.same("of " + far, x.shelve(far, 0), NONE);
             Check.same("on " + far, x.shelve(0, far), NONE);
         }
@@ -597,7 +574,7 @@ public final class HeldEdgesTest {
         Check.same("of the emptied one", x.shelve(0, 0), NONE);
         Check.same("two can be undone", x.count(9), 2);
         Check.same("one on the FLOOR", x.count(4), 1);
-        Check.same("no SHELF is told", Check.told("heap a;" + plain('a', "a", 1)).shelve(0, 0), NONE);
+        Check.same("no SHELF is told", Check.told("heap a;" + Keys.plain('a', "a", 1)).shelve(0, 0), NONE);
 
         Check.heading(SHELVE, "if its KIND is the SHELF's");
         String[] kinds = {"plain", "urgent", "late", "odd"};
@@ -614,7 +591,7 @@ public final class HeldEdgesTest {
     private static void shelvePlaces() {
         Check.heading(SHELVE, "what came out is on the first free place (of 4) of a SHELF, if [..] one is free; else it stays"
             + " on the FLOOR");
-        RaisedQueue x = ofKeys("grows 1;", upTo(6));
+        RaisedQueue x = ofKeys("grows 1;", Keys.upTo(6));
         for (int i = 0; i < 4; i++) {
             Check.same("the " + i + "th", x.shelve(0, 0), 1);
             Check.same("its place", x.item(i, 3), i);
@@ -652,7 +629,7 @@ public final class HeldEdgesTest {
 
     private static void undoLastEight() {
         Check.heading(UNDO, "UNDO: all of these, the last 8, one by one. false: nothing can be.");
-        RaisedQueue x = ofKeys("grows 1;", upTo(12));
+        RaisedQueue x = ofKeys("grows 1;", Keys.upTo(12));
         Check.same("at first nothing", x.undo(), false);
         for (int i = 0; i < 8; i++) {
             Check.same("can be undone", x.count(9), i);
@@ -696,7 +673,7 @@ public final class HeldEdgesTest {
             Check.same("what can be undone is as ahead", x.count(9), 4);
         }
         // NODES below others: what stands above each is back, too
-        RaisedQueue deep = Check.told("heap a; heap b; grows 1;" + plain('a', "a", 4, 3, 2, 1) + plain('e', "b", 8, 7, 6, 5));
+        RaisedQueue deep = Check.told("heap a; heap b; grows 1;" + Keys.plain('a', "a", 4, 3, 2, 1) + Keys.plain('e', "b", 8, 7, 6, 5));
         String before = picture(deep);
         deep.meld(0, 1);
         Check.same("three NODES above one", deep.depth(4), 3);
@@ -734,7 +711,7 @@ public final class HeldEdgesTest {
     // ---- Promise 15 ----
 
     private static RaisedQueue judgedOf(String work) {
-        RaisedQueue x = Check.told("heap a; heap b; shelf s plain; shelf t odd; share 0;" + plain('a', "a", 4, 3, 2));
+        RaisedQueue x = Check.told("heap a; heap b; shelf s plain; shelf t odd; share 0;" + Keys.plain('a', "a", 4, 3, 2));
         Check.same("work() of " + work, Check.work(x, work), 0);
         return x;
     }
@@ -766,7 +743,7 @@ public final class HeldEdgesTest {
         Check.heading(JUDGED, "JUDGED, what 0: a line, 1, 2: how many; -2: others.");
         Check.same("what 2 is one", x.judged(2) >= 0, true);
         Check.same("what 3", x.judged(3), -2);
-        for (int far : FAR_OUT) {
+        for (int far : Keys.FAR_OUT) {
             Check.same("what " + far, x.judged(far), -2);
         }
         Check.same("not even without a WORK", judgedOf("").judged(3), -2);
@@ -800,7 +777,7 @@ public final class HeldEdgesTest {
     }
 
     private static RaisedQueue judgedFive(String work) {
-        RaisedQueue x = ofKeys("", upTo(5));
+        RaisedQueue x = ofKeys("", Keys.upTo(5));
         Check.same("work() of " + work, Check.work(x, work), 0);
         return x;
     }
