@@ -6,6 +6,7 @@ import java.lang.reflect.Modifier;
 import java.nio.file.Files;
 import java.nio.file.Path;
 import java.util.Arrays;
+import java.util.List;
 import java.util.Set;
 import java.util.TreeSet;
 import java.util.regex.Matcher;
@@ -21,6 +22,12 @@ public final class FaceTest {
         + " int split(int, int); int steps(int, int); int worth(int); int mean(int); int bits(int); int thousand(int);"
         + " int lift(int); boolean bound(int); int depth(int); boolean see(int, int, boolean); int who(); int ask();"
         + " int days(int, int, int); boolean mark(int, boolean); int count(int)";
+    private static final List<String> IMPORTED = List.of("java.util.NoSuchElementException", "java.util.ArrayList",
+        "java.util.List", "java.util.Arrays", "java.util.Iterator");
+    private static final List<String> FORBIDDEN = List.of("finally", "synchronized", "assert", "Object", "Thread", "Random",
+        "Runtime", "Float", "Double", "Character", "Boolean", "Throwable", "Exception", "Error", "getMessage", "hashCode",
+        "getClass", "identityHashCode", "volatile", "native", "NullPointerException", "ClassCastException",
+        "ArrayIndexOutOfBoundsException", "NegativeArraySizeException", "ArrayStoreException");
     private static final Path SOURCE = Path.of("src/main/java/RaisedQueue.java");
     private static final int LONGEST_METHOD = 60;
     private static final int MOST_CLASSES = 12;
@@ -103,18 +110,20 @@ public final class FaceTest {
     private static void source(String text) {
         String bare = Pattern.compile("/\\*.*?\\*/|//[^\n]*|\"[^\"\n]*\"|'[^']*'", Pattern.DOTALL).matcher(text)
             .replaceAll(m -> m.group().startsWith("\"") ? "\"\"" : m.group().startsWith("'") ? "' '" : "");
-        for (String sign : new String[] {"->", "::", "@"}) {
+        for (String sign : new String[] {"->", "::"}) {
             Check.same("no " + sign, bare.contains(sign), false);
         }
-        for (String word : new String[] {"try", "catch", "finally", "synchronized", "assert", "instanceof", "lambda",
-            "double", "System", "Thread", "Random", "Float", "Double", "ordinal", "name", "hashCode", "toString"}) {
-            boolean asCall = word.equals("name");
-            Check.same("no " + word, Pattern.compile("\\b" + word + (asCall ? "\\(" : "\\b")).matcher(bare).find(), false);
+        for (String word : FORBIDDEN) {
+            Check.same("no " + word, Pattern.compile("\\b" + word + "\\b").matcher(bare).find(), false);
         }
+        Check.same("of System only arraycopy", Pattern.compile("\\bSystem\\b(?!\\.arraycopy\\()").matcher(bare).find(), false);
+        Check.same("of Math nothing exact", Pattern.compile("\\bMath\\.\\w+Exact\\(").matcher(bare).find(), false);
+        Check.same("nothing is caught that the machine may throw", Pattern.compile("\\bcatch\\s*\\([^)]*"
+            + "\\b(RuntimeException|IndexOutOfBoundsException|ArithmeticException)\\b").matcher(bare).find(), false);
         Check.same("signs are 10, 32 to 126", text.chars().allMatch(s -> s == 10 || s >= 32 && s <= 126), true);
         Matcher imports = Pattern.compile("import ([^;]*);").matcher(bare);
         while (imports.find()) {
-            Check.same(imports.group(), imports.group(1).equals("java.util.NoSuchElementException"), true);
+            Check.same(imports.group(), IMPORTED.contains(imports.group(1)), true);
         }
         Check.same("no package", Pattern.compile("(?m)^package").matcher(bare).find(), false);
         // an element of an array is reached in few places, each behind a look at its index on the same lines
